@@ -440,7 +440,8 @@ public final class FamineOfVerbs {
     private boolean couldHaveHad(int t, int v, int n) {
         ahead.begin(land);
         ahead.setStock(t, v, n);
-        for (int season = 1; season <= HEARD_SEASONS; season++) {
+        int latest = Math.min(HEARD_SEASONS, heard.latestSeason());
+        for (int season = 1; season <= latest; season++) {
             if (!heard.agrees(season, ahead.goBy(land))) {
                 return false;
             }
@@ -714,12 +715,20 @@ public final class FamineOfVerbs {
 
         /** Found once a LAND, because every WORK of every SEASON asks for it. */
         void findSaid() {
-            for (int t = 0; t < villages; t++) {
-                int bits = 0;
-                for (int v = 0; v < verbs; v++) {
-                    bits |= smallestRow(t, v) == NONE ? 0 : 1 << v;
+            fill(said, 0);
+            for (int set = 1; set <= allNouns(); set++) {
+                int meant = meantBy(set);
+                if (Integer.bitCount(meant) == 1) {
+                    addSaid(set, meant);
                 }
-                put(said, t, bits);
+            }
+        }
+
+        private void addSaid(int set, int meant) {
+            for (int t = 0; t < villages; t++) {
+                if ((set & ~nounsOf(t)) == 0) {
+                    put(said, t, at(said, t) | meant);
+                }
             }
         }
 
@@ -928,6 +937,14 @@ public final class FamineOfVerbs {
             wereDone[many] = done;
             many++;
             return true;
+        }
+
+        int latestSeason() {
+            int latest = 0;
+            for (int i = 0; i < many; i++) {
+                latest = Math.max(latest, at(seasons, i));
+            }
+            return latest;
         }
 
         /** Whether WORKS DONE in a SEASON, as bits, are as is HEARD of it. */

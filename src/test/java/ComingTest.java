@@ -31,6 +31,16 @@ public final class ComingTest {
                 x.behind(1, LEAST, 0, 0), x.behind(1, 0, MOST, 2), x.behind(1, 2, 0, 2), x.behind(1, 0, 0, MOST));
     }
 
+    private static void behindWhatHasBeen() {
+        FamineOfVerbs x = Checks.laid("v0,0;t0;t0;s0,0,3;s1,0,2;w0,0,5;");
+        x.pass(5);
+        due("two were forgotten", x.work(0, 4), 2);
+        due("three more", x.behind(3, 0, 0, 2), 3);
+        x.give(1, 0, 0, 2);
+        due("two will be done", x.behind(3, 0, 0, 1), 10);
+        due("one is forgotten", x.behind(3, 0, 0, 2), 1);
+    }
+
     private static void smallOnesGoOnBySeason() {
         FamineOfVerbs x = Checks.laid("v1,0;t0;s0,0,5;w0,0,1;");
         due("even first", x.behind(1, 0, 0, 0), 5);
@@ -95,6 +105,7 @@ public final class ComingTest {
         due("two of three", Checks.laid("v0,0;t0;t0;s0,0,1;s1,0,5;w0,0,1;w0,0,2;w0,0,3;").sent(), 2);
         due("two verbs", Checks.laid("v0,0;v2,0;t0;t0;s1,0,5;s0,1,5;w0,0,1;w0,0,2;w1,1,3;").sent(), 3);
         due("of one too few", Checks.laid("v0,0;v2,0;t0;t0;s1,0,5;w0,0,1;w1,1,3;").sent(), Checks.NONE);
+        due("worth 9", Checks.laid("v0,0;t0;t0;s1,0,2;w0,0,9;w0,0,1;").sent(), 2);
         due("three villages", Checks.laid("v0,0;t0;t0;t0;s2,0,9;w0,0,1;w0,0,2;w1,0,3;w2,0,1;").sent(), 3);
     }
 
@@ -130,6 +141,9 @@ public final class ComingTest {
         due("one season: some stay", x.share(0, 1, -1), 21);
         due("none there is", x.share(1, 5, -1), 0);
         due("none for 2", x.share(1, 5, 2), 0);
+        FamineOfVerbs edge = Checks.laid("v0,0;t0;s0,0,20;w0,0,1;w0,0,9;");
+        due("worth 9 and 1", edge.share(0, 9, -1), 81 + 9);
+        due("two stay", edge.share(0, 9, 0), 18);
         CHECKS.bad("share", x.share(2, 1, 0), x.share(-1, 1, 0), x.share(0, 0, 0), x.share(0, 10, 0),
                 x.share(0, 1, 3), x.share(0, 1, -2), x.share(LEAST, 1, 0), x.share(0, MOST, 0), x.share(0, 1, LEAST),
                 x.share(0, 1, MOST));
@@ -137,6 +151,7 @@ public final class ComingTest {
 
     public static void main(String[] args) {
         behind();
+        behindWhatHasBeen();
         smallOnesGoOnBySeason();
         silent();
         farEdges();

@@ -168,6 +168,31 @@ public final class LandsTest {
         due("back stays", x.back(), 0);
     }
 
+    private static void readingLeavesTheLand() {
+        FamineOfVerbs x = Checks.laid("v0,0;t1;n1;s0,0,9;w0,0,2;");
+        x.wipe();
+        Checks.write(x, "v3,9;v2,8;t2;t3;n2;n3;");
+        String before = Checks.stateOf(x);
+        due("another text", x.fault(), Checks.NONE);
+        CHECKS.due("the land stays", Checks.stateOf(x), before);
+        due("its kind stays", x.verb(0, 0), 0);
+        due("its noun stays", x.noun(0), 1);
+        x.pass(10);
+        due("forgotten none", x.work(0, 4), 0);
+        Checks.write(x, "x");
+        due("a refused text", x.lay(), Checks.NO);
+        due("its village stays", x.village(0, 0), 1);
+        due("its work stays", x.work(0, 2), 2);
+    }
+
+    private static void layingForgets() {
+        FamineOfVerbs x = Checks.laid("v0,0;t0;w0,0,2;");
+        x.pass(10);
+        due("forgotten", x.work(0, 4), 10);
+        x.lay();
+        due("forgotten none", x.work(0, 4), 0);
+    }
+
     private static void verbsAndNouns() {
         FamineOfVerbs x = Checks.laid("n63;v1,4;v2,9;t0;t0;v3,0;s0,1,30;s1,1,7;s1,1,8;n5;n56;");
         due("kind 0", x.verb(0, 0), 1);
@@ -231,6 +256,8 @@ public final class LandsTest {
         faultsOfMany();
         laying();
         layingAgain();
+        readingLeavesTheLand();
+        layingForgets();
         verbsAndNouns();
         villages();
         works();

@@ -30,6 +30,31 @@ public final class ModelTest {
         };
     }
 
+    /** Mostly a village other than t. */
+    private static int other(Model y, int t) {
+        int villages = y.count(2);
+        return draw(8) == 0 || villages < 2 || t < 0 || t >= villages ? about(0, villages - 1) : (t + between(1, villages - 1)) % villages;
+    }
+
+    /** Mostly a verb that t has. */
+    private static int hadBy(Model y, int t) {
+        int v = about(0, y.count(0) - 1);
+        for (int tries = 0; tries < 8 && y.stock(t, v) == 0; tries++) {
+            v = draw(y.count(0));
+        }
+        return v;
+    }
+
+    /** Now and then all that t has, or as many as u can take, or one more. */
+    private static int gift(Model y, int t, int u, int v, int most) {
+        return switch (draw(6)) {
+            case 0 -> y.stock(t, v) + draw(2);
+            case 1 -> 60 - y.stock(u, v) + draw(2);
+            case 2 -> about(1, most);
+            default -> between(1, 9);
+        };
+    }
+
     private static String items(int verbs, int nouns, int villages) {
         StringBuilder text = new StringBuilder();
         for (int i = 0; i < verbs; i++) {
@@ -82,9 +107,9 @@ public final class ModelTest {
 
     private static void change(FamineOfVerbs x, Model y) {
         int t = about(0, y.count(2) - 1);
-        int u = about(0, y.count(2) - 1);
-        int v = about(0, y.count(0) - 1);
-        int n = draw(3) == 0 ? about(1, 60) : about(1, 12);
+        int u = other(y, t);
+        int v = hadBy(y, t);
+        int n = gift(y, t, u, v, 60);
         switch (draw(11)) {
             case 0, 1 -> {
                 int seasons = draw(3) == 0 ? about(1, 10) : 1;
@@ -144,9 +169,10 @@ public final class ModelTest {
 
     private static void foresee(FamineOfVerbs x, Model y) {
         int t = about(0, y.count(2) - 1);
-        int u = about(0, y.count(2) - 1);
-        int v = about(0, y.count(0) - 1);
+        int u = other(y, t);
+        int v = hadBy(y, t);
         int n = about(1, 9);
+        int load = gift(y, t, u, v, 9);
         int two = about(0, 1);
         int three = about(0, 2);
         int far = about(0, 40);
@@ -164,7 +190,7 @@ public final class ModelTest {
             case 5 -> due("say(" + tv + ")", x.say(t, v), y.say(t, v));
             case 6 -> due("tells(" + set + "," + two + ")", x.tells(set, two), y.tells(set, two));
             case 7 -> due("hoard(" + tv + "," + two + ")", x.hoard(t, v, two), y.hoard(t, v, two));
-            case 8 -> due("caravan(" + t + "," + u + "," + v + "," + n + ")", x.caravan(t, u, v, n), y.caravan(t, u, v, n));
+            case 8 -> due("caravan(" + t + "," + u + "," + v + "," + load + ")", x.caravan(t, u, v, load), y.caravan(t, u, v, load));
             default -> due("decade(" + z + "," + decade + "," + two + ")", x.decade(z, decade, two), y.decade(z, decade, two));
         }
     }

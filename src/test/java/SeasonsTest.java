@@ -135,6 +135,9 @@ public final class SeasonsTest {
     }
 
     private static void sowingFromSmall() {
+        FamineOfVerbs lowest = Checks.laid("v1,1;v1,1;v0,4;t0;s0,0,2;s0,1,2;");
+        due("bred from verb 0", lowest.sow(0, 2), 0);
+        due("all of it", lowest.stock(0, 0), 0);
         FamineOfVerbs x = Checks.laid("v1,1;v1,1;t0;s0,1,2;");
         due("a small one from another one", x.sow(0, 0), 0);
         due("two of it", x.stock(0, 1), 0);
