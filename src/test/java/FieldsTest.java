@@ -168,7 +168,7 @@ public final class FieldsTest {
         CHECKS.bad("count", x.count(-1), x.count(10), x.count(LEAST), x.count(MOST));
     }
 
-    /** DRAW of z = 0 begins 0, then (6152 x 6152 modulo 65521) by 8, cut = 5215 and (12303 x 12303 ..) = 1256. */
+    /** The first DRAW of z = 0 is 0: village 0 has 1 less of verb 0. */
     private static void decades() {
         FamineOfVerbs x = Checks.laid("v0,0;v0,0;t0;t0;s0,0,1;s1,0,1;w0,0,3;w1,0,5;");
         String before = Checks.stateOf(x);
