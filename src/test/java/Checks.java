@@ -5,13 +5,28 @@ final class Checks {
 
     private int right;
     private int wrong;
+    private int sentences;
+    private int rightAtSentence;
+    private String sentence = "";
+
+    /** What follows looks at this sentence of the document, "" for none: one without an answer is wrong. */
+    void sentence(String words) {
+        if (!sentence.isEmpty() && right == rightAtSentence) {
+            wrong++;
+            System.out.println("no right answer to: " + sentence);
+        }
+        sentence = words;
+        sentences += words.isEmpty() ? 0 : 1;
+        rightAtSentence = right;
+    }
 
     void due(String call, Object got, Object want) {
         if (got.equals(want)) {
             right++;
         } else {
             wrong++;
-            System.out.println(call + " answered " + got + ", due is " + want);
+            System.out.println(call + " answered " + got + ", due is " + want
+                    + (sentence.isEmpty() ? "" : ", by: " + sentence));
         }
     }
 
@@ -23,7 +38,9 @@ final class Checks {
     }
 
     void end() {
-        System.out.println(right + " answers are as due, " + wrong + " are not");
+        sentence("");
+        System.out.println(right + " answers are as due, " + wrong + " are not"
+                + (sentences > 0 ? "; " + sentences + " sentences" : ""));
         if (wrong > 0 || right == 0) {
             System.exit(1);
         }
@@ -44,12 +61,24 @@ final class Checks {
         return x;
     }
 
+    static FamineOfVerbs written(String text) {
+        FamineOfVerbs x = new FamineOfVerbs();
+        write(x, text);
+        return x;
+    }
+
     /** All that can be seen of an object and that a refused call must leave alone. */
     static String stateOf(FamineOfVerbs x) {
         StringBuilder seen = new StringBuilder();
         for (int what = 0; what <= 9; what++) {
             seen.append(x.count(what)).append(' ');
         }
+        return seen.append(standingOf(x)).toString();
+    }
+
+    /** What SEASONS, GIVING and SOWING change. */
+    static String standingOf(FamineOfVerbs x) {
+        StringBuilder seen = new StringBuilder();
         for (int t = 0; t < x.count(2); t++) {
             seen.append("| ").append(x.village(t, 1)).append(' ');
             for (int v = 0; v < x.count(0); v++) {
