@@ -52,6 +52,9 @@ public final class LandEdgesTest {
         sound("v03,09;", "v00,00;", "n01;", "t00;", AHEAD + "s00,00,00;", AHEAD + "w00,00,09;", "n63;");
         faultAt(0, "v,0;", "v0,;", "v,;", "v000,0;", "v0,000;", "n;", "n001;", "n063;", "t;", "t000;", "v+1,0;",
                 "v-1,0;", "va,0;", "v0,a;", "v 0,0;", "v0 ,0;", "v0, 0;", "v0,0 ;", "v:,0;", "v/,0;", "v0,1:;", "v1/,0;");
+        // Signs behind 9 that would be good numbers, were they figures.
+        faultAt(0, "n:;", "n;;", "nA;", "n1A;", "t:;", "tA;", "t1:;", "t`;");
+        faultAt(8, AHEAD + "s0,0,:;", AHEAD + "s0,0,A;", AHEAD + "s0,0,1:;", AHEAD + "s0,0,;;", AHEAD + "w0,0,a;");
         faultAt(8, AHEAD + "s,0,0;", AHEAD + "s0,,0;", AHEAD + "s0,0,;", AHEAD + "s000,0,0;", AHEAD + "s0,0,000;",
                 AHEAD + "w0,0,001;", AHEAD + "w0,0,;");
     }
